@@ -523,7 +523,9 @@ public final class ArcTape {
 
         /** Behind a fault every bit is 1 and none is read, so that each code comes to its end. */
         private int nextBit() {
-            failIf(place >= tape.length, 1);
+            if (fault == 0 && place >= tape.length) {
+                fault = 1;
+            }
             if (fault != 0) {
                 return 1;
             }
