@@ -2,6 +2,12 @@
 final class Check {
     private static final int MOST_TOLD = 40;
     private int wrong = 0;
+    private String sentence = "";
+
+    /** The sentence of the document that the following calls test; it is told with the first wrong one. */
+    void begin(String newSentence) {
+        sentence = newSentence;
+    }
 
     void due(String call, long got, long want) {
         if (got != want) {
@@ -34,8 +40,12 @@ final class Check {
 
     private void tell(String text) {
         wrong++;
+        if (!sentence.isEmpty()) {
+            System.out.println("\"" + sentence + "\" does not hold:");
+            sentence = "";
+        }
         if (wrong <= MOST_TOLD) {
-            System.out.println(text);
+            System.out.println("  " + text);
         }
     }
 }

@@ -1,122 +1,322 @@
-/** Promises 4 to 6: pack, offset, bit; every expected stream is worked out by hand from the document's codes. */
+/** What the document says of packing, and promises 4 to 6: pack, offset, bit; every expected stream is worked out by hand. */
 public final class PackTest {
-    private static final Check CHECK = new Check();
+    private static final Packing PLAIN = new Packing(0, 0, 0, 1);
 
     public static void main(String[] args) {
-        wholeStream();
-        zeta();
-        intervals();
-        runs();
-        choiceOfReference();
-        chain();
-        refused();
-        places();
-        whatStays();
-        CHECK.finish();
+        Sentences.test(PackTest.class);
     }
 
-    private static void wholeStream() {
-        ArcTape x = Tapes.graph(4, Tapes.row(0, 1, 2));
-        CHECK.due("pack", x.pack(0, 0, 0, 1), 10);
-        // d = 2: 011; 1 - 0 as 2: 011; 2 - 1 - 1 = 0: 1; then three nodes with d = 0.
-        CHECK.due("stream", Tapes.bits(x, 0, 10), "0110111" + "111");
-        CHECK.due("offset(0)", x.offset(0), 0);
-        CHECK.due("offset(1)", x.offset(1), 7);
-        CHECK.due("offset(3)", x.offset(3), 9);
-        CHECK.due("offset(4)", x.offset(4), 10);
-        CHECK.due("with a window: one bit more for r, none where d is 0", x.pack(3, 2, 0, 1), 11);
-        CHECK.due("record of 0", Tapes.record(x, 0), "011" + "1" + "0111");
-        CHECK.due("no arcs", new ArcTape(12).pack(6, 3, 9, 4), 12);
+    private static ArcTape withRow(int n, int u, int first, int count) {
+        ArcTape x = new ArcTape(n);
+        for (int v = first; v < first + count; v++) {
+            x.add(u, v);
+        }
+        return x;
     }
 
-    private static void zeta() {
-        int[][] arcs = {{0, 0}, {0, 1}, {0, 2}, {0, 4}, {0, 8}, {8, 0}, {4, 0}};
-        String[][] due = {
-            {"1", "10", "100", "1000"},
-            {"011", "111", "1011", "10011"},
-            {"00101", "01001", "1101", "10101"},
-            {"0001001", "011001", "0100001", "11001"},
-            {"000010001", "00100001", "01010001", "010000001"},
-            {"000010000", "00100000", "01010000", "010000000"},
-            {"0001000", "011000", "0100000", "11000"},
-        };
-        for (int i = 0; i < arcs.length; i++) {
-            int u = arcs[i][0];
-            ArcTape x = Tapes.graph(9, Tapes.row(u, arcs[i][1]));
-            for (int k = 1; k <= 4; k++) {
-                x.pack(0, 0, 0, k);
-                CHECK.due("zeta of " + u + " to " + arcs[i][1] + ", K " + k, Tapes.record(x, u), "010" + due[i][k - 1]);
+    @Sentence("PACKING has a WINDOW of 0 .. 6, a CHAIN of 0 .. 3, a LEAST of 0 .. 9 and a K of 1 .. 4.")
+    static void eachOfTheRanges(Check check) {
+        for (int window = 0; window <= 6; window++) {
+            for (int chain = 0; chain <= 3; chain++) {
+                ArcTape x = Tapes.graph(5, Tapes.row(0, 1, 2, 4), Tapes.row(3, 1, 2, 4));
+                for (int least = 0; least <= 9; least++) {
+                    for (int k = 1; k <= 4; k++) {
+                        String name = "pack(" + window + ", " + chain + ", " + least + ", " + k + ")";
+                        check.due(name, x.pack(window, chain, least, k), x.offset(5));
+                        check.due(name + ": list of 3", Tapes.list(x, 3), "1,2,4");
+                    }
+                }
             }
         }
     }
 
-    private static void intervals() {
-        ArcTape x = Tapes.graph(8, Tapes.row(3, 0, 1, 2, 5, 6, 7));
-        x.pack(0, 0, 3, 1);
-        // d = 6; two intervals; 0 - 3 as 5; 3 - 3; 5 - 2 - 2 = 1; 3 - 3.
-        CHECK.due("least 3", Tapes.record(x, 3), "00111" + "011" + "00110" + "1" + "010" + "1");
-        x.pack(0, 0, 4, 1);
-        // No interval; 0 - 3 as 5, then 0, 0, 2, 0, 0.
-        CHECK.due("least 4", Tapes.record(x, 3), "00111" + "1" + "00110" + "1" + "1" + "011" + "1" + "1");
-        x.pack(0, 0, 0, 1);
-        CHECK.due("least 0", Tapes.record(x, 3), "00111" + "00110" + "1" + "1" + "011" + "1" + "1");
-        x.drop(3, 6);
-        x.pack(0, 0, 1, 1);
-        // Intervals 0 .. 2, 5, 7: 0 - 3 as 5, 2; 5 - 2 - 2 = 1, 0; 7 - 5 - 2 = 0, 0.
-        CHECK.due("least 1", Tapes.record(x, 3), "00110" + "00100" + "00110" + "011" + "010" + "1" + "1" + "1");
-        x.pack(0, 0, 2, 2);
-        // Interval 0 .. 2 with 3 - 2 = 1 more; then 5 - 3 as 4 and 7 - 5 - 1 = 1 in zeta with K 2.
-        CHECK.due("least 2", Tapes.record(x, 3), "00110" + "010" + "00110" + "010" + "01001" + "110");
-    }
-
-    private static void runs() {
-        ArcTape x = Tapes.graph(12, Tapes.row(0, 0, 2, 3, 5, 7, 9, 11), Tapes.row(1, 0, 2, 5, 7, 9, 11));
-        x.pack(1, 1, 0, 1);
-        // d = 6, r = 1, two runs written: 2 copied, 1 left out.
-        CHECK.due("last run copied", Tapes.record(x, 1), "00111" + "01" + "011" + "011" + "1");
-        CHECK.due("no intervals where there is no rest", x.pack(1, 1, 2, 1) - x.offset(2), 10);
-        CHECK.due("no rest", Tapes.record(x, 1), "00111" + "01" + "011" + "011" + "1");
-        ArcTape y = Tapes.graph(12, Tapes.row(0, 0, 2, 4, 6, 8, 10, 11), Tapes.row(1, 2, 4, 6, 8, 10));
-        y.pack(1, 1, 0, 1);
-        // d = 5, r = 1, runs of 0, 1, 5 and 1, of which three are written: 0, 1 - 1, 5 - 1.
-        CHECK.due("first run empty, last left out", Tapes.record(y, 1), "00110" + "01" + "00100" + "1" + "1" + "00101");
-        ArcTape z = Tapes.graph(12, Tapes.row(5, 0, 2, 3, 5, 7, 9, 11), Tapes.row(6, 2, 3, 5, 7, 8, 9, 11));
-        z.pack(1, 1, 1, 1);
-        // d = 7, r = 1, runs of 0, 1 and 6, two are written: 1, 1; one interval, 8 - 6 as 4, of 1 number.
-        CHECK.due("copied and rest", Tapes.record(z, 6), "0001000" + "01" + "011" + "1" + "1" + "010" + "00101" + "1");
-        z.pack(1, 1, 0, 1);
-        CHECK.due("copied and rest, least 0", Tapes.record(z, 6), "0001000" + "01" + "011" + "1" + "1" + "00101");
-    }
-
-    private static void choiceOfReference() {
-        int[] same = {0, 3, 5, 7, 9, 11};
-        ArcTape x = Tapes.graph(12);
-        for (int v : same) {
-            x.add(2, v);
-            x.add(4, v);
-            x.add(6, v);
+    @Sentence("refused with -1 if one of the four is out of its range.")
+    static void outOfTheRanges(Check check) {
+        int[][] wrong = {{-1, 0, 0, 1}, {7, 0, 0, 1}, {0, -1, 0, 1}, {0, 4, 0, 1}, {0, 0, -1, 1}, {0, 0, 10, 1}, {0, 0, 0, 0}, {0, 0, 0, 5},
+            {0, 0, 0, -1}, {6, 3, 9, 5}, {6, 3, 10, 4}, {6, 4, 9, 4}, {7, 3, 9, 4}, {Integer.MIN_VALUE, 0, 0, 1}, {Integer.MAX_VALUE, 0, 0, 1},
+            {0, Integer.MIN_VALUE, 0, 1}, {0, Integer.MAX_VALUE, 0, 1}, {0, 0, Integer.MIN_VALUE, 1}, {0, 0, Integer.MAX_VALUE, 1},
+            {0, 0, 0, Integer.MIN_VALUE}, {0, 0, 0, Integer.MAX_VALUE}, {256, 0, 0, 1}, {0, 256, 0, 1}, {0, 0, 256, 1}, {0, 0, 0, 257}};
+        ArcTape x = Tapes.packed(new Packing(1, 1, 1, 2), 4, Tapes.row(0, 1, 2));
+        String before = State.shown(x, 4);
+        x.add(1, 1);
+        for (int[] w : wrong) {
+            check.due("pack(" + w[0] + ", " + w[1] + ", " + w[2] + ", " + w[3] + ")", x.pack(w[0], w[1], w[2], w[3]), -1);
         }
-        x.pack(6, 3, 0, 1);
-        CHECK.due("nothing before it", x.reference(2), 0);
-        CHECK.due("over a node without successors", x.reference(4), 2);
-        CHECK.due("the nearest is the shortest", x.reference(6), 2);
-        x.pack(1, 3, 0, 1);
-        CHECK.due("out of the window", x.reference(4), 0);
-        // r = 0: 010 1 010; r = 2: 010 001 1: seven bits each.
-        ArcTape y = Tapes.graph(3, Tapes.row(0, 1), Tapes.row(2, 1));
-        y.pack(2, 1, 0, 1);
-        CHECK.due("0 and 2 are equal", Tapes.record(y, 2), "010" + "1" + "010");
-        // r = 1: 01, all copied, 2 as the rest: 1 1; r = 2: 001, all copied: 1; four bits each behind d.
-        ArcTape z = Tapes.graph(6, Tapes.row(0, 0, 2, 5), Tapes.row(1, 0, 5), Tapes.row(2, 0, 2, 5));
-        z.pack(2, 3, 0, 1);
-        CHECK.due("1 and 2 are equal", Tapes.record(z, 2), "00100" + "01" + "1" + "1");
+        check.due("after refusals", State.shown(x, 4), before);
     }
 
-    private static void chain() {
-        int[] same = {0, 3, 5, 7, 9, 11};
-        ArcTape x = Tapes.graph(12);
+    @Sentence("Packs the draft with this WINDOW, CHAIN, LEAST and K and answers the number of bits of the stream")
+    static void numberOfBits(Check check) {
+        ArcTape x = Tapes.graph(4, Tapes.row(0, 1, 2));
+        // d = 2: 011; 1 - 0 as 2: 011; 2 - 1 - 1 = 0: 1; then three nodes with d = 0.
+        check.due("plain", x.pack(0, 0, 0, 1), 10);
+        check.due("stream", Tapes.bits(x, 0, 11), "0110111" + "111" + "-1");
+        check.due("a window: one bit more", x.pack(3, 2, 0, 1), 11);
+        check.due("K 2: 111 10 for 011 1", x.pack(0, 0, 0, 2), 3 + 3 + 2 + 3);
+        check.due("least 2: one interval, 2, 0", x.pack(0, 0, 2, 1), 3 + 3 + 3 + 1 + 3);
+        check.due("no arcs", new ArcTape(12).pack(6, 3, 9, 4), 12);
+        ArcTape full = new ArcTape(12);
+        for (int u = 0; u < 12; u++) {
+            for (int v = 0; v < 12; v++) {
+                full.add(u, v);
+            }
+        }
+        // Each d is 7 bits; 0 - u, being 0, 1, 3, .., 21, is 1, 3, 5, 5, 7, 7, 7, 7, 9, 9, 9 and 9 bits; 11 bits behind it.
+        check.due("all arcs", full.pack(0, 0, 0, 1), 12 * 7 + 78 + 12 * 11);
+    }
+
+    @Sentence("Scores, hubs and weights stay.")
+    static void whatStays(Check check) {
+        for (int kind = 0; kind <= 2; kind++) {
+            ArcTape x = Tapes.packed(PLAIN, 3, Tapes.row(0, 1), Tapes.row(1, 2));
+            x.prefer(2, 5);
+            x.start(kind, 700);
+            x.step(2);
+            String before = State.scores(x, 3);
+            x.add(2, 2);
+            x.pack(2, 2, 2, 2);
+            check.due("kind " + kind, State.scores(x, 3), before);
+            x.start(0, 0);
+            x.step(1);
+            // 1, 1 and 5 of 7.
+            check.due("weights: score(0)", x.score(0), 142857142857L);
+            check.due("weights: score(2)", x.score(2), 714285714285L);
+        }
+    }
+
+    @Sentence("The RECORDS of the nodes 0, 1, .. follow each other; a node's OFFSET is the place where its record begins, "
+        + "the offset of n the length of the stream.")
+    static void offsets(Check check) {
+        ArcTape x = Tapes.packed(PLAIN, 4, Tapes.row(0, 1, 2), Tapes.row(2, 2), Tapes.row(3, 0));
+        // 011 011 1; 1; 010 1; 010 and 0 - 3 as 5: 00110.
+        check.due("stream", Tapes.bits(x, 0, 20), "0110111" + "1" + "0101" + "01000110");
+        int[] due = {0, 7, 8, 12, 20};
+        for (int u = 0; u <= 4; u++) {
+            check.due("offset(" + u + ")", x.offset(u), due[u]);
+        }
+        check.due("bit(20)", x.bit(20), -1);
+    }
+
+    @Sentence("The offset of node u, or for u = n the number of bits of the stream; -1 if u is not 0 .. n.")
+    static void offsetOfNone(Check check) {
+        for (int n = 1; n <= 12; n++) {
+            ArcTape x = Tapes.graph(n, Tapes.row(0, 0));
+            int bits = PLAIN.of(x);
+            check.due(n + " nodes: offset(0)", x.offset(0), 0);
+            check.due(n + " nodes: offset(1)", x.offset(1), 4);
+            check.due(n + " nodes: offset(n)", x.offset(n), bits);
+            for (int wrong : new int[] {-1, n + 1, n + 2, 14, Integer.MIN_VALUE, Integer.MAX_VALUE}) {
+                check.due(n + " nodes: offset(" + wrong + ")", x.offset(wrong), -1);
+            }
+        }
+    }
+
+    @Sentence("The bit at place p, 0 or 1; -1 if the stream has no such place.")
+    static void bits(Check check) {
+        ArcTape x = Tapes.packed(PLAIN, 4, Tapes.row(0, 1, 2));
+        String due = "0110111111";
+        for (int p = 0; p < 10; p++) {
+            check.due("bit(" + p + ")", x.bit(p), due.charAt(p) - '0');
+        }
+        for (int wrong : new int[] {-1, 10, 11, 799, 800, Integer.MIN_VALUE, Integer.MAX_VALUE}) {
+            check.due("bit(" + wrong + ")", x.bit(wrong), -1);
+        }
+        x.drop(0, 1);
+        x.drop(0, 2);
+        check.due("packed shorter", PLAIN.of(x), 4);
+        check.due("bit(3)", x.bit(3), 1);
+        for (int p = 4; p <= 10; p++) {
+            check.due("bit(" + p + ") is gone", x.bit(p), -1);
+        }
+    }
+
+    @Sentence("pack writes all of it anew from the draft")
+    static void writtenAnew(Check check) {
+        ArcTape x = Tapes.graph(4, Tapes.row(0, 1, 2));
+        PLAIN.of(x);
+        for (int p = 0; p < 10; p++) {
+            x.flip(p);
+        }
+        check.due("flipped", Tapes.bits(x, 0, 10), "1001000000");
+        PLAIN.of(x);
+        check.due("written anew", Tapes.bits(x, 0, 10), "0110111111");
+        check.due("list of 0", Tapes.list(x, 0), "1,2");
+        check.due("list of 3", Tapes.list(x, 3), "");
+    }
+
+    @Sentence("First d in gamma. If d is 0, that is all.")
+    static void emptyRecord(Check check) {
+        Packing[] packings = {PLAIN, new Packing(6, 3, 0, 1), new Packing(0, 0, 9, 1), new Packing(6, 3, 1, 4)};
+        for (Packing packing : packings) {
+            ArcTape x = Tapes.packed(packing, 3, Tapes.row(0, 0, 2));
+            check.due(packing + ": record of 1", Tapes.record(x, 1), "1");
+            check.due(packing + ": record of 2", Tapes.record(x, 2), "1");
+        }
+    }
+
+    @Sentence("If WINDOW > 0, the REFERENCE r, at most WINDOW and at most u, in unary. (With WINDOW 0, r is 0.)")
+    static void window(Check check) {
+        for (int far = 1; far <= 7; far++) {
+            for (int window = 0; window <= 6; window++) {
+                ArcTape x = Tapes.packed(new Packing(window, 3, 0, 1), 12, Tapes.row(1, 0, 3, 5, 7, 9, 11), Tapes.row(1 + far, 0, 3, 5, 7, 9, 11));
+                check.due("window " + window + ": reference to " + far + " before", x.reference(1 + far), far <= window ? far : 0);
+            }
+        }
+        ArcTape x = Tapes.graph(12, Tapes.row(0, 0));
+        x.pack(0, 3, 0, 1);
+        check.due("no r", Tapes.record(x, 0), "010" + "1");
+        x.pack(1, 3, 0, 1);
+        check.due("r is 0", Tapes.record(x, 0), "010" + "1" + "1");
+        x.pack(6, 0, 0, 1);
+        check.due("r is 0, whatever the chain", Tapes.record(x, 0), "010" + "1" + "1");
+    }
+
+    @Sentence("this first run may have no node, if the first of Y is not in X; every other has at least one")
+    static void firstRun(Check check) {
+        ArcTape x = Tapes.packed(new Packing(1, 1, 0, 1), 12, Tapes.row(0, 0, 2, 4, 6, 8, 10, 11), Tapes.row(1, 2, 4, 6, 8, 10));
+        // Runs of 0, 1, 5 and 1, of which three are written: 0, 1 - 1, 5 - 1.
+        check.due("record of 1", Tapes.record(x, 1), Codes.gamma(5) + "01" + Codes.gammas(3, 0, 0, 4));
+        check.due("list of 1", Tapes.list(x, 1), "2,4,6,8,10");
+        ArcTape y = Tapes.packed(new Packing(1, 1, 0, 4), 12, Tapes.row(0, 0, 1, 2, 3, 4, 5, 6, 7, 8, 9, 10, 11), Tapes.row(1, 1, 3, 5, 7, 9, 11));
+        // A run of 0, and twelve of 1, the last of which is not written.
+        check.due("thirteen runs", Tapes.record(y, 1), Codes.gamma(6) + "01" + Codes.gammas(12, 0, 0, 0, 0, 0, 0, 0, 0, 0, 0, 0, 0));
+        check.due("list of 1", Tapes.list(y, 1), "1,3,5,7,9,11");
+    }
+
+    @Sentence("The last run is not written.")
+    static void lastRun(Check check) {
+        ArcTape x = Tapes.packed(new Packing(1, 1, 0, 1), 12, Tapes.row(0, 0, 2, 3, 5, 7, 9, 11), Tapes.row(1, 0, 2, 5, 7, 9, 11));
+        check.due("the last is copied", Tapes.record(x, 1), Codes.gamma(6) + "01" + Codes.gammas(2, 2, 0));
+        ArcTape y = Tapes.packed(new Packing(1, 1, 0, 1), 12, Tapes.row(0, 0, 2, 5, 7, 9, 11), Tapes.row(1, 0, 2, 5, 7));
+        check.due("the last is left out", Tapes.record(y, 1), Codes.gamma(4) + "01" + Codes.gammas(1, 4));
+        ArcTape z = Tapes.packed(new Packing(1, 1, 0, 1), 12, Tapes.row(0, 0, 2, 5, 7, 9, 11), Tapes.row(1, 0, 2, 5, 7, 9, 11));
+        check.due("the only one", Tapes.record(z, 1), Codes.gamma(6) + "01" + Codes.gamma(0));
+    }
+
+    @Sentence("The number of the runs that are written in gamma; then the first one's number of nodes in gamma, "
+        + "and of each other one the number of nodes less 1 in gamma.")
+    static void lengthsOfRuns(Check check) {
+        ArcTape x = Tapes.packed(new Packing(1, 1, 0, 4), 12, Tapes.row(0, 0, 1, 2, 3, 4, 5, 6, 7, 8, 9, 10, 11), Tapes.row(1, 0, 1, 2, 5, 8, 9, 10));
+        // 3 copied, 2 left out, 1 copied, 2 left out, 3 copied, 1 left out.
+        check.due("record of 1", Tapes.record(x, 1), Codes.gamma(7) + "01" + Codes.gammas(5, 3, 1, 0, 1, 2));
+        check.due("list of 1", Tapes.list(x, 1), "0,1,2,5,8,9,10");
+    }
+
+    @Sentence("The REST are the nodes of X that are not in Y (with r = 0 all of X). If there are none, that is all.")
+    static void rest(Check check) {
+        int[] same = Tapes.row(0, 0, 2, 3, 5, 7, 9, 11);
+        ArcTape x = Tapes.graph(12, same, Tapes.row(1, 0, 2, 5, 7, 9, 11));
+        for (int least = 0; least <= 9; least++) {
+            x.pack(1, 1, least, 1);
+            check.due("no rest, least " + least, Tapes.record(x, 1), Codes.gamma(6) + "01" + Codes.gammas(2, 2, 0));
+            check.due("list of 1", Tapes.list(x, 1), "0,2,5,7,9,11");
+        }
+        ArcTape y = Tapes.graph(12, same, Tapes.row(1, 0, 2, 3, 5, 7, 8, 9, 11));
+        y.pack(1, 1, 0, 1);
+        check.due("8 is the rest", Tapes.record(y, 1), Codes.gamma(8) + "01" + Codes.gamma(0) + Codes.gamma(Codes.signed(7)));
+        y.pack(1, 1, 1, 1);
+        check.due("8 is an interval", Tapes.record(y, 1), Codes.gamma(8) + "01" + Codes.gammas(0, 1, Codes.signed(7), 0));
+        y.pack(1, 1, 2, 1);
+        check.due("8 is none", Tapes.record(y, 1), Codes.gamma(8) + "01" + Codes.gammas(0, 0) + Codes.gamma(Codes.signed(7)));
+    }
+
+    @Sentence("the INTERVALS are the longest rows of consecutive numbers in the rest that have LEAST or more numbers.")
+    static void leastOrMore(Check check) {
+        for (int least = 1; least <= 9; least++) {
+            for (int count = 1; count <= 12; count++) {
+                ArcTape x = withRow(12, 0, 0, count);
+                x.pack(0, 0, least, 1);
+                String due = count >= least ? Codes.gammas(count, 1, 0, count - least) : Codes.gammas(count, 0) + "1".repeat(count);
+                check.due("least " + least + ", a row of " + count, Tapes.record(x, 0), due);
+                check.due("degree", x.degree(0), count);
+            }
+        }
+    }
+
+    @Sentence("the longest rows of consecutive numbers in the rest")
+    static void rowsInTheRest(Check check) {
+        // 4, 5 and 6 are a row in X, but 4 and 6 are copied.
+        ArcTape x = Tapes.packed(new Packing(1, 1, 2, 1), 12, Tapes.row(0, 0, 2, 4, 6, 8, 10), Tapes.row(1, 0, 2, 4, 5, 6, 8, 10));
+        check.due("record of 1", Tapes.record(x, 1), Codes.gamma(7) + "01" + Codes.gammas(0, 0) + Codes.gamma(Codes.signed(4)));
+        check.due("list of 1", Tapes.list(x, 1), "0,2,4,5,6,8,10");
+        // The last node belongs to a row that ends with it.
+        ArcTape y = withRow(12, 11, 8, 4);
+        y.pack(0, 0, 4, 1);
+        check.due("8 .. 11", Tapes.record(y, 11), Codes.gammas(4, 1, Codes.signed(-3), 0));
+    }
+
+    @Sentence("If LEAST > 0")
+    static void withoutIntervals(Check check) {
+        ArcTape x = withRow(12, 0, 0, 12);
+        x.pack(0, 0, 0, 1);
+        check.due("least 0", Tapes.record(x, 0), Codes.gamma(12) + "1".repeat(12));
+        x.pack(0, 0, 1, 1);
+        check.due("least 1", Tapes.record(x, 0), Codes.gammas(12, 1, 0, 11));
+    }
+
+    @Sentence("How many there are in gamma")
+    static void howManyIntervals(Check check) {
+        ArcTape x = Tapes.graph(12, Tapes.row(0, 0, 2, 4, 6, 8, 10));
+        x.pack(0, 0, 1, 1);
+        check.due("six", Tapes.record(x, 0), Codes.gammas(6, 6, 0, 0, 0, 0, 0, 0, 0, 0, 0, 0, 0, 0));
+        check.due("list of 0", Tapes.list(x, 0), "0,2,4,6,8,10");
+        x.pack(0, 0, 2, 1);
+        check.due("none", Tapes.record(x, 0), Codes.gammas(6, 0, 0, 1, 1, 1, 1, 1));
+        check.due("list of 0", Tapes.list(x, 0), "0,2,4,6,8,10");
+    }
+
+    @Sentence("its first number a, written in gamma as the number a - u, which may be below 0, for the first interval, "
+        + "as a - z - 2 for every other, z being the last number of the interval before; then how many numbers it has less LEAST in gamma.")
+    static void intervals(Check check) {
+        ArcTape x = Tapes.graph(12, Tapes.row(3, 0, 1, 2, 5, 6, 7, 8));
+        x.pack(0, 0, 3, 1);
+        check.due("below u", Tapes.record(x, 3), Codes.gammas(7, 2, Codes.signed(-3), 0, 1, 1));
+        ArcTape y = Tapes.graph(12, Tapes.row(0, 0, 1, 3, 4));
+        y.pack(0, 0, 2, 1);
+        check.due("as near as can be", Tapes.record(y, 0), Codes.gammas(4, 2, 0, 0, 0, 0));
+        check.due("list of 0", Tapes.list(y, 0), "0,1,3,4");
+        ArcTape z = Tapes.graph(12, Tapes.row(11, 0, 11));
+        z.pack(0, 0, 1, 1);
+        check.due("as far as can be", Tapes.record(z, 11), Codes.gammas(2, 2, Codes.signed(-11), 0, 9, 0));
+        check.due("list of 11", Tapes.list(z, 11), "0,11");
+    }
+
+    @Sentence("The nodes of the rest that are in no interval (with LEAST 0 all of them), ascending: the first one, v, in zeta as v - u, "
+        + "which may be below 0; every other one, v, in zeta as v - w - 1, w being the one before.")
+    static void behindTheIntervals(Check check) {
+        ArcTape x = Tapes.graph(12, Tapes.row(0, 0, 2, 3, 4, 6));
+        x.pack(0, 0, 3, 1);
+        // Interval 2 .. 4; 0 - 0, and 6 - 0 - 1, as if the interval were not there.
+        check.due("around an interval", Tapes.record(x, 0), Codes.gammas(5, 1, Codes.signed(2), 0, 0, 5));
+        ArcTape y = Tapes.graph(8, Tapes.row(3, 0, 1, 2, 5, 7));
+        y.pack(0, 0, 2, 2);
+        check.due("behind one, K 2", Tapes.record(y, 3), Codes.gammas(5, 1, Codes.signed(-3), 1) + Codes.zeta(Codes.signed(2), 2) + Codes.zeta(1, 2));
+        ArcTape z = Tapes.graph(12, Tapes.row(11, 0, 11));
+        z.pack(0, 0, 0, 3);
+        check.due("below u", Tapes.record(z, 11), Codes.gamma(2) + Codes.zeta(Codes.signed(-11), 3) + Codes.zeta(10, 3));
+    }
+
+    @Sentence("The reference is 0, or an r from 1 on for which u - r has successors in the draft")
+    static void overEmptyNodes(Check check) {
+        ArcTape x = Tapes.packed(new Packing(6, 3, 0, 1), 12, Tapes.row(2, 0, 3, 5, 7, 9, 11), Tapes.row(4, 0, 3, 5, 7, 9, 11));
+        check.due("nothing before it", x.reference(2), 0);
+        check.due("3 has none, 2 has", x.reference(4), 2);
+        x.drop(2, 0);
+        x.drop(2, 3);
+        x.drop(2, 5);
+        x.drop(2, 7);
+        x.drop(2, 9);
+        x.drop(2, 11);
+        x.pack(6, 3, 0, 1);
+        check.due("2 has none in the draft now", x.reference(4), 0);
+        check.due("list of 4", Tapes.list(x, 4), "0,3,5,7,9,11");
+    }
+
+    @Sentence("its DEPTH is below CHAIN")
+    static void chain(Check check) {
+        ArcTape x = new ArcTape(12);
         for (int u = 0; u < 6; u++) {
-            for (int v : same) {
+            for (int v : new int[] {0, 3, 5, 7, 9, 11}) {
                 x.add(u, v);
             }
         }
@@ -124,63 +324,75 @@ public final class PackTest {
         for (int chain = 0; chain <= 3; chain++) {
             x.pack(6, chain, 0, 1);
             for (int u = 0; u < 6; u++) {
-                CHECK.due("chain " + chain + ": reference(" + u + ")", x.reference(u), due[chain][u]);
-                CHECK.due("chain " + chain + ": list of " + u, Tapes.list(x, u), "0,3,5,7,9,11");
+                check.due("chain " + chain + ": reference(" + u + ")", x.reference(u), due[chain][u]);
             }
+            check.due("chain " + chain + ": list of 5", Tapes.list(x, 5), "0,3,5,7,9,11");
         }
     }
 
-    private static void refused() {
-        ArcTape x = Tapes.graph(4, Tapes.row(0, 1, 2));
-        x.pack(1, 1, 1, 2);
-        String before = Tapes.bits(x, 0, x.offset(4));
-        x.add(1, 1);
-        int[][] wrong = {{-1, 0, 0, 1}, {7, 0, 0, 1}, {0, -1, 0, 1}, {0, 4, 0, 1}, {0, 0, -1, 1}, {0, 0, 10, 1}, {0, 0, 0, 0}, {0, 0, 0, 5},
-            {Integer.MIN_VALUE, 0, 0, 1}, {0, Integer.MAX_VALUE, 0, 1}, {0, 0, Integer.MAX_VALUE, 1}, {0, 0, 0, Integer.MIN_VALUE}};
-        for (int[] w : wrong) {
-            CHECK.due("pack(" + w[0] + ", " + w[1] + ", " + w[2] + ", " + w[3] + ")", x.pack(w[0], w[1], w[2], w[3]), -1);
-        }
-        CHECK.due("stream after refusals", Tapes.bits(x, 0, x.offset(4)), before);
-        CHECK.due("read as before", Tapes.list(x, 0), "1,2");
-        CHECK.due("least of each", x.pack(0, 0, 0, 1) > 0, true);
-        CHECK.due("most of each", x.pack(6, 3, 9, 4) > 0, true);
-        CHECK.due("packed anew", Tapes.list(x, 1), "1");
+    @Sentence("whichever gives the record the fewest bits")
+    static void fewestBits(Check check) {
+        ArcTape x = Tapes.packed(new Packing(6, 3, 0, 1), 12, Tapes.row(0, 0, 3, 5, 7, 9, 11), Tapes.row(1, 0, 3, 5), Tapes.row(2, 0, 3, 5, 7, 9, 11));
+        // r = 1: 01, 1, and 7, 9, 11 as 10, 1, 1: 7 + 3 + 3 bits; r = 2: 001 1.
+        check.due("the farther is shorter", x.reference(2), 2);
+        ArcTape y = Tapes.packed(new Packing(6, 3, 0, 1), 12, Tapes.row(0, 0, 3, 5, 7, 9, 11), Tapes.row(1, 1));
+        check.due("none is shorter", Tapes.record(y, 1), "010" + "1" + "1");
+        ArcTape z = Tapes.packed(new Packing(6, 3, 0, 1), 12, Tapes.row(0, 1, 2), Tapes.row(1, 1, 2, 3));
+        // r = 0: 1, 1 1 1; r = 1: 01, 1, 3 - 1 as 4: 00101.
+        check.due("copying would be longer", Tapes.record(z, 1), Codes.gamma(3) + "1" + "111");
+        ArcTape v = Tapes.packed(new Packing(1, 1, 0, 1), 3, Tapes.row(0, 0, 2), Tapes.row(1, 0, 2));
+        // r = 0: 1 010 010; r = 1: 01 1.
+        check.due("copying is shorter", Tapes.record(v, 1), "011" + "01" + "1");
     }
 
-    private static void places() {
-        ArcTape x = Tapes.graph(4, Tapes.row(0, 1, 2));
-        x.pack(0, 0, 0, 1);
-        int[] wrong = {-1, 5, Integer.MIN_VALUE, Integer.MAX_VALUE};
-        for (int u : wrong) {
-            CHECK.due("offset(" + u + ")", x.offset(u), -1);
-        }
-        int[] noPlaces = {-1, 10, 11, Integer.MIN_VALUE, Integer.MAX_VALUE};
-        for (int p : noPlaces) {
-            CHECK.due("bit(" + p + ")", x.bit(p), -1);
-        }
-        CHECK.due("bit(9)", x.bit(9), 1);
-        x.drop(0, 1);
-        x.drop(0, 2);
-        CHECK.due("packed shorter", x.pack(0, 0, 0, 1), 4);
-        CHECK.due("bit(4) is gone", x.bit(4), -1);
-        CHECK.due("offset(4)", x.offset(4), 4);
+    @Sentence("and the least r among equals.")
+    static void equals(Check check) {
+        // r = 0: 1, 1 1; r = 1: 01, 1: three bits each behind d.
+        ArcTape x = Tapes.packed(new Packing(1, 1, 0, 1), 3, Tapes.row(0, 1, 2), Tapes.row(1, 1, 2));
+        check.due("0 and 1 are equal", Tapes.record(x, 1), "011" + "1" + "11");
+        // r = 0: 010 1 010; r = 2: 010 001 1: seven bits each.
+        ArcTape y = Tapes.packed(new Packing(2, 1, 0, 1), 3, Tapes.row(0, 1), Tapes.row(2, 1));
+        check.due("0 and 2 are equal", Tapes.record(y, 2), "010" + "1" + "010");
+        // r = 1: 01, all copied, 2 as the rest: 1 1; r = 2: 001, all copied: 1; four bits each behind d.
+        ArcTape z = Tapes.packed(new Packing(2, 3, 0, 1), 6, Tapes.row(0, 0, 2, 5), Tapes.row(1, 0, 5), Tapes.row(2, 0, 2, 5));
+        check.due("1 and 2 are equal", Tapes.record(z, 2), "00100" + "01" + "1" + "1");
     }
 
-    private static void whatStays() {
-        ArcTape x = Tapes.graph(3, Tapes.row(0, 1), Tapes.row(1, 2));
-        x.pack(0, 0, 0, 1);
-        x.prefer(2, 5);
-        x.start(1, 0);
-        x.step(1);
-        long[] before = {x.score(0), x.score(1), x.hub(1), x.hub(2), x.change()};
-        x.add(2, 2);
-        x.pack(2, 2, 2, 2);
-        long[] after = {x.score(0), x.score(1), x.hub(1), x.hub(2), x.change()};
-        for (int i = 0; i < before.length; i++) {
-            CHECK.due("pack leaves score, hub and change, " + i, after[i], before[i]);
+    @Sentence("The depth of a node whose reference is 0, or that has no successors, is 0, "
+        + "that of any other 1 + the depth of the node that it refers to.")
+    static void depths(Check check) {
+        // Node 2 is like none before it, so that its depth is 0 again, and 3 may refer to it though 1 has depth 1.
+        ArcTape x = Tapes.packed(new Packing(1, 1, 0, 1), 12, Tapes.row(0, 0, 3, 6, 9), Tapes.row(1, 0, 3, 6, 9), Tapes.row(2, 2, 5, 8, 11),
+            Tapes.row(3, 2, 5, 8, 11), Tapes.row(4, 2, 5, 8, 11));
+        int[] due = {0, 1, 0, 1, 0};
+        for (int u = 0; u < 5; u++) {
+            check.due("chain 1: reference(" + u + ")", x.reference(u), due[u]);
         }
-        x.prefer(0, 0);
-        x.prefer(1, 0);
-        CHECK.due("pack leaves weights", x.prefer(2, 0), false);
+        for (int v : new int[] {2, 5, 8, 11}) {
+            x.drop(3, v);
+        }
+        x.pack(1, 1, 0, 1);
+        check.due("behind a node without successors", x.reference(4), 0);
+        x.pack(2, 1, 0, 1);
+        check.due("over it", x.reference(4), 2);
+    }
+
+    @Sentence("The depth of a node whose reference is 0, or that has no successors, is 0")
+    static void depthsOfEarlierPackings(Check check) {
+        int[] same = {0, 3, 5, 7, 9, 11};
+        ArcTape x = new ArcTape(12);
+        for (int v : same) {
+            x.add(0, v);
+            x.add(1, v);
+            x.add(2, v);
+        }
+        x.pack(1, 2, 0, 1);
+        check.due("chain 2: reference(2)", x.reference(2), 1);
+        for (int v : same) {
+            x.drop(0, v);
+        }
+        x.pack(1, 1, 0, 1);
+        check.due("1 has depth 0 now", x.reference(1), 0);
+        check.due("so 2 may refer to it", x.reference(2), 1);
     }
 }

@@ -1,240 +1,256 @@
-/** Promises 7 to 10: flip, degree, successor, reference, and the faults 1 to 10. */
+import java.util.Arrays;
+import java.util.stream.Collectors;
+
+/** What the document says of reading a record without faults, and promises 7 to 10: flip, degree, successor, reference. */
 public final class ReadTest {
-    private static final Check CHECK = new Check();
+    private static final Packing PLAIN = new Packing(0, 0, 0, 1);
+    private static final Packing REFERRING = new Packing(1, 1, 0, 1);
 
     public static void main(String[] args) {
-        flip();
-        lists();
-        references();
-        endOfStream();
-        zeros();
-        tooManySuccessors();
-        referenceOutOfReach();
-        faultyReference();
-        runs();
-        intervals();
-        singles();
-        twiceAndEnd();
-        CHECK.finish();
+        Sentences.test(ReadTest.class);
     }
 
-    /** A graph with every arc, so that the stream has room for records that are written over it. */
-    private static ArcTape full(int n, int window, int chain, int least, int k) {
-        ArcTape x = new ArcTape(n);
-        for (int u = 0; u < n; u++) {
-            for (int v = 0; v < n; v++) {
+    @Sentence("The record of u is read from its offset on as it was written above")
+    static void asItWasWritten(Check check) {
+        int[][] rows = {{0, 0, 1, 2, 3, 4, 5, 6, 7, 8, 9, 10, 11}, {1, 0, 1, 2, 3, 4, 6, 7, 8, 9, 10, 11}, {3, 1, 2, 3, 9}, {4, 1, 2, 3, 9, 11}, {5, 0, 11},
+            {7, 2, 4, 6, 8, 10}, {8, 2, 6, 7, 8, 10, 11}, {11, 0, 1, 2, 3, 4, 5, 6, 7, 8, 9, 10, 11}};
+        String[] due = new String[12];
+        for (int u = 0; u < 12; u++) {
+            due[u] = "";
+        }
+        for (int[] row : rows) {
+            due[row[0]] = Arrays.stream(row).skip(1).mapToObj(Integer::toString).collect(Collectors.joining(","));
+        }
+        for (int window = 0; window <= 6; window++) {
+            for (int chain = 0; chain <= 3; chain++) {
+                for (int least = 0; least <= 9; least++) {
+                    for (int k = 1; k <= 4; k++) {
+                        Packing packing = new Packing(window, chain, least, k);
+                        ArcTape x = Tapes.packed(packing, 12, rows);
+                        for (int u = 0; u < 12; u++) {
+                            check.due(packing + ": list of " + u, Tapes.list(x, u), due[u]);
+                        }
+                    }
+                }
+            }
+        }
+    }
+
+    @Sentence("The record of u is read from its offset on")
+    static void fromItsOffset(Check check) {
+        ArcTape x = Tapes.packed(PLAIN, 3, Tapes.row(0, 1), Tapes.row(1, 2), Tapes.row(2, 0));
+        // The record of 0 becomes as long as nothing else, but that of 1 begins where it began.
+        Tapes.overwrite(x, 0, "1");
+        check.due("0 ends too early", x.degree(0), -10);
+        check.due("1 is as it was", Tapes.list(x, 1), "2");
+        check.due("2 is as it was", Tapes.list(x, 2), "0");
+    }
+
+    @Sentence("offsets, WINDOW, CHAIN, LEAST and K are those of the latest packing.")
+    static void latestPacking(Check check) {
+        Packing[] packings = {PLAIN, new Packing(6, 3, 9, 4), new Packing(1, 1, 0, 2), new Packing(0, 3, 1, 3), new Packing(6, 0, 0, 1), PLAIN};
+        ArcTape x = Tapes.graph(6, Tapes.row(0, 1, 2, 3), Tapes.row(1, 1, 2, 3, 5), Tapes.row(5, 0, 5));
+        for (Packing packing : packings) {
+            packing.of(x);
+            x.pack(7, 3, 3, 3);
+            x.pack(3, 4, 3, 3);
+            x.pack(3, 3, 10, 3);
+            x.pack(3, 3, 3, 5);
+            check.due(packing + ": list of 0", Tapes.list(x, 0), "1,2,3");
+            check.due(packing + ": list of 1", Tapes.list(x, 1), "1,2,3,5");
+            check.due(packing + ": list of 2", Tapes.list(x, 2), "");
+            check.due(packing + ": list of 5", Tapes.list(x, 5), "0,5");
+        }
+    }
+
+    @Sentence("Y and depths are then what reading gives")
+    static void whatReadingGives(Check check) {
+        ArcTape x = Tapes.packed(REFERRING, 12, Tapes.row(0, 0, 3, 6, 9), Tapes.row(1, 0, 3, 6, 9));
+        check.due("record of 0", Tapes.record(x, 0), Codes.gamma(4) + "1" + Codes.gammas(0, 2, 2, 2));
+        check.due("record of 1", Tapes.record(x, 1), Codes.gamma(4) + "01" + Codes.gamma(0));
+        // 0, 2, 5 and 8 now, and so for the node that copies it, though the draft says otherwise.
+        Tapes.overwrite(x, 0, Codes.gamma(4) + "1" + Codes.gammas(0, 1, 2, 2));
+        check.due("list of 0", Tapes.list(x, 0), "0,2,5,8");
+        check.due("list of 1", Tapes.list(x, 1), "0,2,5,8");
+    }
+
+    @Sentence("Y and depths are then what reading gives")
+    static void depthAsRead(Check check) {
+        ArcTape x = Tapes.packed(new Packing(2, 1, 0, 1), 12, Tapes.row(0, 0, 3, 6, 9), Tapes.row(1, 0, 3, 6, 9), Tapes.row(2, 0, 3, 6, 9));
+        check.due("record of 1", Tapes.record(x, 1), Codes.gamma(4) + "01" + "1");
+        check.due("record of 2", Tapes.record(x, 2), Codes.gamma(4) + "001" + "1");
+        // The same number of bits: all of 1 is copied, and 2 itself is the rest.
+        Tapes.overwrite(x, x.offset(2), Codes.gamma(3) + "01" + "1" + "1");
+        check.due("1 is as deep as it was written", x.degree(2), -5);
+        // The same number of bits, but no reference: 1 and 3.
+        Tapes.overwrite(x, x.offset(1), Codes.gamma(2) + "1" + "1" + "010");
+        check.due("list of 1", Tapes.list(x, 1), "1,3");
+        check.due("1 is not deep any more", Tapes.list(x, 2), "1,2,3");
+        check.due("reference(2)", x.reference(2), 1);
+    }
+
+    /** Node 0 has 0, 3, 6, 9; the record is that of node 1, and the nodes behind it have no successors. */
+    private static void reads(Check check, String name, String record, String list) {
+        ArcTape x = Tapes.ending(REFERRING, 12, 1, record + "1".repeat(10), Tapes.row(0, 0, 3, 6, 9));
+        check.due(name, Tapes.list(x, 1), list);
+        check.due(name + ": reference(1)", x.reference(1), 1);
+    }
+
+    @Sentence("the runs are taken in turn as copied and as left out, the first as copied; "
+        + "what is left of Y behind the runs written is copied if their number is even, else left out.")
+    static void runs(Check check) {
+        reads(check, "no run: all copied", Codes.gamma(4) + "01" + Codes.gammas(0), "0,3,6,9");
+        reads(check, "one of 0: none copied", Codes.gamma(1) + "01" + Codes.gammas(1, 0) + Codes.gamma(Codes.signed(4)), "5");
+        reads(check, "one of 1", Codes.gamma(1) + "01" + Codes.gammas(1, 1), "0");
+        reads(check, "one of 4", Codes.gamma(4) + "01" + Codes.gammas(1, 4), "0,3,6,9");
+        reads(check, "two, of 0 and 1", Codes.gamma(3) + "01" + Codes.gammas(2, 0, 0), "3,6,9");
+        reads(check, "two, of 1 and 1", Codes.gamma(3) + "01" + Codes.gammas(2, 1, 0), "0,6,9");
+        reads(check, "two, of 1 and 3: nothing is left", Codes.gamma(1) + "01" + Codes.gammas(2, 1, 2), "0");
+        reads(check, "three, of 0, 1 and 1", Codes.gamma(1) + "01" + Codes.gammas(3, 0, 0, 0), "3");
+        reads(check, "three, of 1, 1 and 1", Codes.gamma(2) + "01" + Codes.gammas(3, 1, 0, 0), "0,6");
+        reads(check, "four, of 0, 1, 1 and 1", Codes.gamma(2) + "01" + Codes.gammas(4, 0, 0, 0, 0), "3,9");
+        reads(check, "four, of 1, 1, 1 and 1", Codes.gamma(2) + "01" + Codes.gammas(4, 1, 0, 0, 0), "0,6");
+    }
+
+    @Sentence("The LIST of u are the successors so read, ascending")
+    static void ascending(Check check) {
+        // Copied are 2, 5, 8 and 11, an interval is 6, 7, behind it come 0 and 9.
+        ArcTape x = Tapes.packed(new Packing(1, 1, 2, 1), 12, Tapes.row(4, 2, 5, 8, 11), Tapes.row(5, 0, 2, 5, 6, 7, 8, 9, 11));
+        check.due("record of 5", Tapes.record(x, 5), Codes.gamma(8) + "01" + Codes.gammas(0, 1, Codes.signed(1), 0) + Codes.gammas(Codes.signed(-5), 8));
+        int[] due = {0, 2, 5, 6, 7, 8, 9, 11};
+        for (int i = 0; i < due.length; i++) {
+            check.due("successor(5, " + i + ")", x.successor(5, i), due[i]);
+        }
+        check.due("reference(5)", x.reference(5), 1);
+    }
+
+    @Sentence("the list of a node whose record is faulty is empty.")
+    static void faultyList(Check check) {
+        ArcTape x = Tapes.packed(PLAIN, 3, Tapes.row(0, 0, 1, 2));
+        // d = 3 and 0, 1, 2; then with the last bit 0 a third node that is not read to its end.
+        x.flip(7);
+        check.due("0 and 1 have been read when the fault comes", x.degree(0) < 0, true);
+        for (int i = 0; i < 3; i++) {
+            check.due("successor(0, " + i + ")", x.successor(0, i), -1);
+        }
+    }
+
+    @Sentence("The bit at place p becomes 1 if it was 0, and 0 if it was 1: true")
+    static void flip(Check check) {
+        ArcTape x = Tapes.packed(PLAIN, 3, Tapes.row(0, 1));
+        String due = "01001111";
+        for (int p = 0; p < 8; p++) {
+            check.due("flip(" + p + ")", x.flip(p), true);
+            String flipped = due.substring(0, p) + (due.charAt(p) == '0' ? "1" : "0") + due.substring(p + 1);
+            check.due("flipped " + p, Tapes.bits(x, 0, 8), flipped);
+            check.due("flip(" + p + ") again", x.flip(p), true);
+            check.due("as before " + p, Tapes.bits(x, 0, 8), due);
+            check.due("list of 0", Tapes.list(x, 0), "1");
+        }
+        check.due("offsets stay", x.offset(3), 8);
+        // 1 - 0 becomes -1.
+        x.flip(5);
+        check.due("degree(0)", x.degree(0), -8);
+        x.flip(7);
+        check.due("degree(2)", x.degree(2), -1);
+    }
+
+    @Sentence("refused with false if the stream has no such place.")
+    static void flipNoPlace(Check check) {
+        ArcTape x = Tapes.packed(PLAIN, 3, Tapes.row(0, 1));
+        for (int wrong : new int[] {-1, 8, 9, 799, 800, 801, Integer.MIN_VALUE, Integer.MAX_VALUE}) {
+            check.due("flip(" + wrong + ")", x.flip(wrong), false);
+        }
+        check.due("stream", Tapes.bits(x, 0, 8), "01001111");
+        x.drop(0, 1);
+        PLAIN.of(x);
+        check.due("flip(2), the last", x.flip(2), true);
+        check.due("flip(3), which was a place", x.flip(3), false);
+        ArcTape one = new ArcTape(1);
+        check.due("flip(0) of one bit", one.flip(0), true);
+        check.due("flip(1) of one bit", one.flip(1), false);
+    }
+
+    @Sentence("The number of nodes in the list of u")
+    static void degree(Check check) {
+        ArcTape x = new ArcTape(12);
+        for (int u = 0; u < 12; u++) {
+            for (int v = 0; v < u; v++) {
                 x.add(u, v);
             }
         }
-        x.pack(window, chain, least, k);
-        return x;
-    }
-
-    private static void fault(String name, ArcTape x, int u, String record, int number) {
-        Tapes.overwrite(x, x.offset(u), record);
-        CHECK.due(name + ": degree(" + u + ")", x.degree(u), -number);
-        CHECK.due(name + ": successor(" + u + ", 0)", x.successor(u, 0), -1);
-        CHECK.due(name + ": reference(" + u + ")", x.reference(u), -1);
-    }
-
-    private static void good(String name, ArcTape x, int u, String record, String list) {
-        Tapes.overwrite(x, x.offset(u), record);
-        CHECK.due(name + ": list of " + u, Tapes.list(x, u), list);
-    }
-
-    private static void flip() {
-        ArcTape x = Tapes.graph(3, Tapes.row(0, 1));
-        x.pack(0, 0, 0, 1);
-        // 010 011, then 1 and 1.
-        CHECK.due("flip(5)", x.flip(5), true);
-        CHECK.due("bit(5)", x.bit(5), 0);
-        CHECK.due("1 becomes -1", x.degree(0), -8);
-        CHECK.due("flip(5) again", x.flip(5), true);
-        CHECK.due("bit(5)", x.bit(5), 1);
-        CHECK.due("1 again", x.degree(0), 1);
-        CHECK.due("flip(7), the last", x.flip(7), true);
-        CHECK.due("degree(2)", x.degree(2), -1);
-        int[] wrong = {-1, 8, Integer.MIN_VALUE, Integer.MAX_VALUE};
-        for (int p : wrong) {
-            CHECK.due("flip(" + p + ")", x.flip(p), false);
+        x.add(0, 0);
+        x.pack(2, 2, 2, 2);
+        check.due("degree(0)", x.degree(0), 1);
+        for (int u = 1; u < 12; u++) {
+            check.due("degree(" + u + ")", x.degree(u), u);
         }
-        CHECK.due("stream", Tapes.bits(x, 0, 8), "01001110");
-        CHECK.due("offsets stay", x.offset(3), 8);
-        x.pack(0, 0, 0, 1);
-        CHECK.due("pack writes all anew", Tapes.bits(x, 0, 8), "01001111");
+        ArcTape full = Tapes.packed(PLAIN, 12, Tapes.row(11, 0, 1, 2, 3, 4, 5, 6, 7, 8, 9, 10, 11));
+        check.due("degree(11) of 12", full.degree(11), 12);
+        check.due("degree(0) of none", full.degree(0), 0);
     }
 
-    private static void lists() {
-        ArcTape x = Tapes.graph(5, Tapes.row(2, 4, 0, 3));
-        x.pack(3, 2, 2, 3);
-        CHECK.due("degree(2)", x.degree(2), 3);
-        CHECK.due("degree(0)", x.degree(0), 0);
-        CHECK.due("successor(2, 0)", x.successor(2, 0), 0);
-        CHECK.due("successor(2, 1)", x.successor(2, 1), 3);
-        CHECK.due("successor(2, 2)", x.successor(2, 2), 4);
-        int[] noNumbers = {-1, 3, Integer.MIN_VALUE, Integer.MAX_VALUE};
-        for (int i : noNumbers) {
-            CHECK.due("successor(2, " + i + ")", x.successor(2, i), -1);
-        }
-        CHECK.due("successor(0, 0)", x.successor(0, 0), -1);
-        int[] noNodes = {-1, 5, 34, Integer.MIN_VALUE, Integer.MAX_VALUE};
-        for (int u : noNodes) {
-            CHECK.due("degree(" + u + ")", x.degree(u), -100);
-            CHECK.due("successor(" + u + ", 0)", x.successor(u, 0), -1);
-            CHECK.due("reference(" + u + ")", x.reference(u), -1);
-        }
-    }
-
-    private static void references() {
-        ArcTape x = Tapes.graph(12, Tapes.row(5, 6));
-        x.pack(2, 1, 0, 1);
-        CHECK.due("record of 5", Tapes.record(x, 5), "010" + "1" + "011");
-        CHECK.due("reference(5)", x.reference(5), 0);
-        CHECK.due("reference(4), d 0", x.reference(4), 0);
-        // As read, a reference may be to a node without successors: no runs, 5 as the rest.
-        good("empty Y", x, 5, "010" + "01" + "1" + "1", "5");
-        CHECK.due("reference(5) to an empty list", x.reference(5), 1);
-    }
-
-    private static void endOfStream() {
-        fault("1, in the unary part", new ArcTape(1), 0, "0", 1);
-        fault("1, in gamma", new ArcTape(2), 0, "01", 1);
-        fault("1, at a reference", packed(3, 1, 1, 0, 1), 0, "010", 1);
-        fault("1, at a count of runs", packed(6, 1, 1, 0, 1), 1, "010" + "01", 1);
-        fault("1, at a count of intervals", packed(3, 0, 0, 1, 1), 0, "010", 1);
-        fault("1, at a node", packed(3, 0, 0, 0, 1), 0, "010", 1);
-        fault("1, in zeta", packed(4, 0, 0, 0, 4), 0, "010" + "1", 1);
-        fault("1, in the one bit more", packed(5, 0, 0, 0, 2), 0, "010" + "11", 1);
-        fault("6 zeros and the end", new ArcTape(6), 0, "000000", 1);
-    }
-
-    private static ArcTape packed(int n, int window, int chain, int least, int k) {
-        ArcTape x = new ArcTape(n);
-        x.pack(window, chain, least, k);
-        return x;
-    }
-
-    private static void zeros() {
-        fault("2, in d", new ArcTape(12), 0, "0000000", 2);
-        fault("2, as the last bit", new ArcTape(7), 0, "0000000", 2);
-        fault("six zeros: d is 63", full(12, 0, 0, 0, 1), 0, "0000001" + "000000", 3);
-        fault("2, in r", full(12, 6, 3, 0, 1), 8, "010" + "0000000", 2);
-        fault("2, in a count of runs", full(12, 6, 3, 0, 1), 1, "010" + "01" + "0000000", 2);
-        fault("2, in a count of intervals", full(12, 0, 0, 3, 1), 0, "010" + "0000000", 2);
-        fault("2, in zeta", full(12, 0, 0, 0, 2), 0, "010" + "0000000", 2);
-        // Six zeros in zeta with K 4 are 28 bits behind them at most.
-        ArcTape x = full(12, 0, 0, 0, 4);
-        fault("six zeros in zeta", x, 0, "010" + "0000001" + "111111111111111111111111111" + "1", 8);
-    }
-
-    private static void tooManySuccessors() {
-        fault("3, d is n + 1", new ArcTape(5), 0, "00111", 3);
-        fault("d is n", new ArcTape(5), 0, "00110", 1);
-        fault("3 before r is read", packed(5, 6, 3, 0, 1), 0, "00111", 3);
-    }
-
-    private static void referenceOutOfReach() {
-        fault("4, more than u", packed(12, 2, 1, 0, 1), 0, "010" + "01", 4);
-        fault("4, more than u by one", packed(12, 6, 1, 0, 1), 1, "010" + "001", 4);
-        fault("4, more than the window", packed(12, 2, 1, 0, 1), 5, "010" + "0001", 4);
-        fault("window 0: no r is read", packed(12, 0, 0, 0, 1), 5, "010" + "1", 10);
-        fault("4 before 5, chain 0", packed(12, 1, 0, 0, 1), 5, "010" + "001", 4);
-    }
-
-    private static void faultyReference() {
-        fault("5, chain 0", packed(12, 2, 0, 0, 1), 5, "010" + "01", 5);
-        ArcTape x = packed(12, 2, 1, 0, 1);
-        Tapes.overwrite(x, 0, "00100" + "010" + "01");
-        CHECK.due("faulty node 4", x.degree(4) < 0, true);
-        fault("5, faulty", x, 5, "010" + "01", 5);
-        // Four times the same list: the depths are 0, 1, 2 and, with r = 2 instead of 1, 2.
-        ArcTape y = new ArcTape(12);
-        for (int u = 0; u < 4; u++) {
-            for (int v = 0; v < 12; v += 3) {
-                y.add(u, v);
+    @Sentence("NONE if u is not a node.")
+    static void degreeOfNoNode(Check check) {
+        for (int n = 1; n <= 12; n++) {
+            ArcTape x = new ArcTape(n);
+            for (int wrong : new int[] {-1, n, n + 1, 32, -32, Integer.MIN_VALUE, Integer.MAX_VALUE}) {
+                check.due(n + " nodes: degree(" + wrong + ")", x.degree(wrong), -100);
             }
         }
-        y.pack(3, 2, 0, 1);
-        CHECK.due("record of 2", Tapes.record(y, 2), "00101" + "01" + "1");
-        CHECK.due("record of 3", Tapes.record(y, 3), "00101" + "001" + "1");
-        fault("5, depth is the chain", y, 3, "00101" + "01" + "1", 5);
-        good("depth is below the chain", y, 3, "00101" + "001" + "1", "0,3,6,9");
-        CHECK.due("reference(3)", y.reference(3), 2);
     }
 
-    private static void runs() {
-        // Node 0 has 0, 3, 6, 9; the record of node 1 begins 010 or 011, 01 and is written over.
-        ArcTape x = new ArcTape(12);
-        for (int v = 0; v < 12; v += 3) {
-            x.add(0, v);
-            x.add(1, v);
+    @Sentence("The i-th node (from 0) of the list of u; -1 if u is not a node or its list has none there.")
+    static void successor(Check check) {
+        ArcTape x = Tapes.packed(new Packing(3, 2, 2, 3), 5, Tapes.row(2, 4, 0, 3), Tapes.row(4, 0, 1, 2, 3, 4));
+        int[] due = {0, 3, 4};
+        for (int i = 0; i < 3; i++) {
+            check.due("successor(2, " + i + ")", x.successor(2, i), due[i]);
         }
-        x.pack(1, 1, 0, 1);
-        CHECK.due("record of 1", Tapes.record(x, 1), "00101" + "01" + "1");
-        fault("6, first run", x, 1, "00101" + "01" + "010" + "00110", 6);
-        fault("6, second run", x, 1, "00101" + "01" + "011" + "00100" + "010", 6);
-        fault("6, first copied more than d", x, 1, "011" + "01" + "010" + "00100", 6);
-        fault("6, what is left is more than d", x, 1, "011" + "01" + "1", 6);
-        // 0 copied, 3 left out, 6 and 9 copied: three, and d is 2.
-        fault("6, with what is left more than d", x, 1, "011" + "01" + "011" + "010" + "1", 6);
-        fault("6, Y is empty", packed(12, 1, 1, 0, 1), 1, "010" + "01" + "010" + "010", 6);
-        fault("Y is empty, a run of 0", packed(12, 1, 1, 0, 1), 1, "010" + "01" + "010" + "1", 10);
-        ArcTape y = Tapes.graph(12, Tapes.row(0, 0, 3, 6, 9), Tapes.row(1, 11));
-        y.pack(1, 1, 0, 1);
-        CHECK.due("record of 1", Tapes.record(y, 1), "010" + "1" + "000010101");
-        // Three runs: none copied, 0 left out, 3 copied; 6 and 9 are left out behind them.
-        good("a run copied", y, 1, "010" + "01" + "00100" + "1" + "1" + "1", "3");
-        CHECK.due("reference(1)", y.reference(1), 1);
+        for (int wrong : new int[] {-1, 3, 4, 32, -32, Integer.MIN_VALUE, Integer.MAX_VALUE}) {
+            check.due("successor(2, " + wrong + ")", x.successor(2, wrong), -1);
+        }
+        check.due("successor(4, 4), the last of all", x.successor(4, 4), 4);
+        check.due("successor(4, 5)", x.successor(4, 5), -1);
+        check.due("successor(0, 0) of an empty list", x.successor(0, 0), -1);
+        for (int wrong : new int[] {-1, 5, 6, 34, -30, Integer.MIN_VALUE, Integer.MAX_VALUE}) {
+            check.due("successor(" + wrong + ", 0)", x.successor(wrong, 0), -1);
+        }
     }
 
-    private static void intervals() {
-        fault("7, first below 0", packed(12, 0, 0, 2, 1), 0, "010" + "010" + "010", 7);
-        fault("7, more than the rest", packed(12, 0, 0, 2, 1), 0, "010" + "010" + "1" + "1", 7);
-        ArcTape x = full(3, 0, 0, 2, 1);
-        CHECK.due("record of 0", Tapes.record(x, 0), "00100" + "010" + "1" + "010");
-        fault("7, first behind n - 1", x, 0, "00100" + "010" + "00111", 7);
-        fault("7, last behind n - 1", x, 0, "00100" + "010" + "00101" + "1", 7);
-        fault("7, second first behind n - 1", x, 0, "00100" + "011" + "1" + "1" + "1", 7);
-        fault("7, looked for before the length", x, 2, "00100" + "010" + "00101" + "000", 7);
-        fault("7, together more than the rest", full(12, 0, 0, 1, 1), 0, "010" + "011" + "1" + "1" + "1" + "1", 7);
-        // Node 0 and nodes 2, 3 as intervals: count 2, 0, 1 - 1, 2 - 0 - 2, 2 - 1.
-        ArcTape y = Tapes.graph(6, Tapes.row(0, 0, 2, 3));
-        y.pack(0, 0, 1, 1);
-        CHECK.due("record of 0", Tapes.record(y, 0), "00100" + "011" + "1" + "1" + "1" + "010");
-        good("the other way about", y, 0, "00100" + "011" + "1" + "010" + "1" + "1", "0,1,3");
+    @Sentence("The reference in the record of u as it is read, 0 if it has none or d is 0")
+    static void reference(Check check) {
+        ArcTape x = Tapes.packed(new Packing(2, 1, 0, 1), 12, Tapes.row(5, 6));
+        check.due("record of 5", Tapes.record(x, 5), "010" + "1" + "011");
+        check.due("reference(5)", x.reference(5), 0);
+        check.due("reference(4), d is 0", x.reference(4), 0);
+        // As read, a reference may be to a node without successors: no runs, 5 as the rest.
+        Tapes.overwrite(x, x.offset(5), "010" + "01" + "1" + "1");
+        check.due("list of 5", Tapes.list(x, 5), "5");
+        check.due("reference(5) to an empty list", x.reference(5), 1);
+        ArcTape y = Tapes.packed(REFERRING, 12, Tapes.row(0, 0, 3, 6, 9), Tapes.row(1, 0, 3, 6, 9));
+        check.due("reference(1)", y.reference(1), 1);
+        y.drop(0, 3);
+        y.drop(1, 3);
+        check.due("reference(1) of the stream, not of the draft", y.reference(1), 1);
+        PLAIN.of(y);
+        check.due("reference(1) with no window", y.reference(1), 0);
     }
 
-    private static void singles() {
-        fault("8, first below 0", packed(12, 0, 0, 0, 1), 0, "010" + "010", 8);
-        fault("8, first behind n - 1", full(3, 0, 0, 0, 1), 0, "010" + "00111", 8);
-        fault("8, second behind n - 1", full(3, 0, 0, 0, 1), 0, "011" + "1" + "011", 8);
-        // Two nodes behind an interval of two: 0, 1 and 3, 5.
-        ArcTape x = Tapes.graph(6, Tapes.row(0, 0, 1, 3, 5));
-        x.pack(0, 0, 2, 1);
-        CHECK.due("record of 0", Tapes.record(x, 0), "00101" + "010" + "1" + "1" + "00111" + "010");
-        good("2 for 3, and 4", x, 0, "00101" + "010" + "1" + "1" + "00101" + "010", "0,1,2,4");
-    }
-
-    private static void twiceAndEnd() {
-        ArcTape x = Tapes.graph(12, Tapes.row(0, 0, 3, 6, 9), Tapes.row(1, 0, 3, 6, 9));
-        x.pack(1, 1, 0, 1);
-        // One more than copied: 3 - 1 as 4.
-        fault("9, copied and behind, before 10", x, 1, "00110" + "01" + "1" + "00101", 9);
-        ArcTape y = Tapes.graph(6, Tapes.row(0, 0, 1, 3));
-        y.pack(0, 0, 2, 1);
-        CHECK.due("record of 0", Tapes.record(y, 0), "00100" + "010" + "1" + "1" + "00111");
-        good("2, 3 and 0", y, 0, "00100" + "010" + "00101" + "1" + "1", "0,2,3");
-        fault("9, in an interval and behind", y, 0, "00100" + "010" + "011" + "1" + "011", 9);
-        ArcTape z = Tapes.graph(6, Tapes.row(1, 0, 1, 3));
-        z.pack(0, 0, 2, 1);
-        CHECK.due("record of 1", Tapes.record(z, 1), "00100" + "010" + "010" + "1" + "00101");
-        fault("10, two bits before its end", z, 1, "00100" + "010" + "010" + "1" + "011", 10);
-        fault("9 before 10", z, 1, "00100" + "010" + "010" + "1" + "1", 9);
-        ArcTape w = new ArcTape(12);
-        fault("10, behind its end", w, 0, "010" + "1", 10);
-        ArcTape v = Tapes.graph(3, Tapes.row(0, 1));
-        v.pack(0, 0, 0, 1);
-        fault("10, before its end", v, 0, "010" + "1", 10);
-        fault("10, d is 0", v, 0, "1", 10);
+    @Sentence("-1 if u is not a node or its record is faulty.")
+    static void noReference(Check check) {
+        for (int n = 1; n <= 12; n++) {
+            ArcTape x = new ArcTape(n);
+            for (int wrong : new int[] {-1, n, n + 1, 32, -32, Integer.MIN_VALUE, Integer.MAX_VALUE}) {
+                check.due(n + " nodes: reference(" + wrong + ")", x.reference(wrong), -1);
+            }
+        }
+        ArcTape y = Tapes.packed(REFERRING, 12, Tapes.row(0, 0, 3, 6, 9), Tapes.row(1, 0, 3, 6, 9));
+        y.flip(0);
+        check.due("faulty, without a window's number", y.reference(0), -1);
+        check.due("faulty behind its reference", y.degree(1), -5);
+        check.due("reference(1)", y.reference(1), -1);
+        y.flip(0);
+        check.due("no more faulty", y.reference(1), 1);
     }
 }

@@ -1,5 +1,7 @@
 /** Makes graphs, and reads and overwrites their streams as texts of 0 and 1. */
 final class Tapes {
+    private static final int MOST_NODES = 12;
+
     private Tapes() {
     }
 
@@ -11,6 +13,12 @@ final class Tapes {
                 x.add(row[0], row[i]);
             }
         }
+        return x;
+    }
+
+    static ArcTape packed(Packing packing, int n, int[]... rows) {
+        ArcTape x = graph(n, rows);
+        packing.of(x);
         return x;
     }
 
@@ -39,13 +47,64 @@ final class Tapes {
         }
     }
 
+    /**
+     * A graph whose stream from the offset of u on is the text and nothing behind it. Nodes behind u have no successors;
+     * u has such that there are just as many bits. The rows are those of the nodes before u.
+     */
+    static ArcTape ending(Packing packing, int n, int u, String text, int[]... rows) {
+        ArcTape x = endingOrNull(packing, n, u, text, rows);
+        if (x == null) {
+            throw new IllegalStateException("no graph with " + n + " nodes has a stream that ends at " + u + " with " + text);
+        }
+        return x;
+    }
+
+    /** The same with as many nodes as fit, for texts in which the number of nodes does not matter. */
+    static ArcTape ending(Packing packing, int u, String text, int[]... rows) {
+        for (int n = MOST_NODES; n > Math.max(u, greatest(rows)); n--) {
+            ArcTape x = endingOrNull(packing, n, u, text, rows);
+            if (x != null) {
+                return x;
+            }
+        }
+        throw new IllegalStateException("no graph has a stream that ends at " + u + " with " + text);
+    }
+
+    /** The same, or null if there is no such graph. */
+    static ArcTape endingOrNull(Packing packing, int n, int u, String text, int[]... rows) {
+        for (int set = 0; set < 1 << n; set++) {
+            ArcTape x = graph(n, rows);
+            for (int v = 0; v < n; v++) {
+                if ((set >> v & 1) != 0) {
+                    x.add(u, v);
+                }
+            }
+            if (packing.of(x) == x.offset(u) + text.length()) {
+                overwrite(x, x.offset(u), text);
+                return x;
+            }
+        }
+        return null;
+    }
+
+    private static int greatest(int[]... rows) {
+        int greatest = 0;
+        for (int[] row : rows) {
+            for (int v : row) {
+                greatest = Math.max(greatest, v);
+            }
+        }
+        return greatest;
+    }
+
     /** The list of u with commas, or its fault as degree tells it. */
     static String list(ArcTape x, int u) {
-        if (x.degree(u) < 0) {
-            return Integer.toString(x.degree(u));
+        int degree = x.degree(u);
+        if (degree < 0) {
+            return Integer.toString(degree);
         }
         StringBuilder text = new StringBuilder();
-        for (int i = 0; i < x.degree(u); i++) {
+        for (int i = 0; i < degree; i++) {
             text.append(i == 0 ? "" : ",").append(x.successor(u, i));
         }
         return text.toString();
