@@ -198,12 +198,7 @@ public final class DraftTest {
 
     @Sentence("The arc u to v goes out of the draft: true")
     static void dropEach(Check check) {
-        ArcTape x = new ArcTape(12);
-        for (int u = 0; u < 12; u++) {
-            for (int v = 0; v < 12; v++) {
-                x.add(u, v);
-            }
-        }
+        ArcTape x = Tapes.full(12);
         for (int u = 0; u < 12; u++) {
             for (int v = 0; v < 12; v++) {
                 if (v != 5) {

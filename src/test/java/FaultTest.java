@@ -463,6 +463,23 @@ public final class FaultTest {
         ends(check, "5 before 6", new Packing(6, 0, 0, 1), 1, Codes.gamma(1) + "01" + Codes.gammas(1, 1), 5, FOUR);
     }
 
+    @Sentence("each is looked for as soon as the numbers of which it speaks have been read, before another bit is read")
+    static void beforeAnotherBit(Check check) {
+        // The stream ends with the fault each time, and without its last bit that bit is missed.
+        atOnce(check, "3", PLAIN, 5, Codes.gamma(13), 3);
+        atOnce(check, "4", new Packing(2, 3, 0, 1), 6, Codes.gamma(1) + "0001", 4);
+        atOnce(check, "5", new Packing(6, 0, 0, 1), 6, Codes.gamma(1) + "01", 5);
+        atOnce(check, "6", REFERRING, 1, Codes.gamma(1) + "01" + Codes.gammas(1, 1), 6);
+        atOnce(check, "7, its first number", BY_ONE, 0, Codes.gammas(1, 1, 1), 7);
+        atOnce(check, "7, its length", BY_TWO, 0, Codes.gammas(1, 1, 0, 0), 7);
+        atOnce(check, "8", PLAIN, 0, Codes.gammas(1, 1), 8);
+    }
+
+    private static void atOnce(Check check, String name, Packing packing, int u, String text, int number) {
+        faulty(check, name, Tapes.ending(packing, u, text), u, number);
+        faulty(check, name + ", one bit less", Tapes.ending(packing, u, text.substring(0, text.length() - 1)), u, 1);
+    }
+
     @Sentence("if its record is faulty, the number of the fault with a minus sign, -1 .. -10")
     static void eachNumber(Check check) {
         check.due("1", Tapes.ending(PLAIN, 0, "0").degree(0), -1);

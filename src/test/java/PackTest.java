@@ -55,14 +55,46 @@ public final class PackTest {
         check.due("K 2: 111 10 for 011 1", x.pack(0, 0, 0, 2), 3 + 3 + 2 + 3);
         check.due("least 2: one interval, 2, 0", x.pack(0, 0, 2, 1), 3 + 3 + 3 + 1 + 3);
         check.due("no arcs", new ArcTape(12).pack(6, 3, 9, 4), 12);
-        ArcTape full = new ArcTape(12);
-        for (int u = 0; u < 12; u++) {
-            for (int v = 0; v < 12; v++) {
-                full.add(u, v);
-            }
-        }
+        ArcTape full = Tapes.full(12);
         // Each d is 7 bits; 0 - u, being 0, 1, 3, .., 21, is 1, 3, 5, 5, 7, 7, 7, 7, 9, 9, 9 and 9 bits; 11 bits behind it.
         check.due("all arcs", full.pack(0, 0, 0, 1), 12 * 7 + 78 + 12 * 11);
+    }
+
+    @Sentence("answers the number of bits of the stream")
+    static void longestStreams(Check check) {
+        for (int k = 1; k <= 4; k++) {
+            for (int least = 0; least <= 3; least++) {
+                Packing packing = new Packing(0, 0, least, k);
+                ArcTape x = new ArcTape(12);
+                int[] longest = new int[12];
+                int bits = 0;
+                for (int u = 0; u < 12; u++) {
+                    longest[u] = longestSet(packing, u);
+                    Tapes.addSet(x, u, longest[u]);
+                    bits += packing.of(Tapes.withSet(12, u, longest[u])) - 11;
+                }
+                check.due(packing + ": every record is as long as can be", packing.of(x), bits);
+                check.due(packing + ": offset(12)", x.offset(12), bits);
+                check.due(packing + ": the last bit", x.bit(bits - 1) >= 0, true);
+                check.due(packing + ": behind it", x.bit(bits), -1);
+                for (int u = 0; u < 12; u++) {
+                    check.due(packing + ": set of " + u, Tapes.set(x, u), longest[u]);
+                }
+            }
+        }
+    }
+
+    private static int longestSet(Packing packing, int u) {
+        int longest = 0;
+        int most = 0;
+        for (int set = 0; set < 1 << 12; set++) {
+            int bits = packing.of(Tapes.withSet(12, u, set));
+            if (bits > most) {
+                most = bits;
+                longest = set;
+            }
+        }
+        return longest;
     }
 
     @Sentence("Scores, hubs and weights stay.")
@@ -169,6 +201,16 @@ public final class PackTest {
         check.due("r is 0", Tapes.record(x, 0), "010" + "1" + "1");
         x.pack(6, 0, 0, 1);
         check.due("r is 0, whatever the chain", Tapes.record(x, 0), "010" + "1" + "1");
+    }
+
+    @Sentence("They fall into RUNS: in turn a longest row of nodes that are in X and a longest row of nodes that are not, beginning with such that are")
+    static void rowsInY(Check check) {
+        // Neighbours in Y are a row, whatever numbers are between them: 0, 4, 7 copied, 8, 10 left out, 11 copied.
+        ArcTape x = Tapes.packed(new Packing(1, 1, 0, 1), 12, Tapes.row(0, 0, 4, 7, 8, 10, 11), Tapes.row(1, 0, 4, 7, 11));
+        check.due("record of 1", Tapes.record(x, 1), Codes.gamma(4) + "01" + Codes.gammas(2, 3, 1));
+        // What X has between them does not part them either: all of Y is one run, and 5 and 6 are the rest.
+        ArcTape y = Tapes.packed(new Packing(1, 1, 0, 1), 12, Tapes.row(0, 0, 4, 7, 8, 10, 11), Tapes.row(1, 0, 4, 5, 6, 7, 8, 10, 11));
+        check.due("record of 1", Tapes.record(y, 1), Codes.gamma(8) + "01" + Codes.gamma(0) + Codes.gammas(Codes.signed(4), 0));
     }
 
     @Sentence("this first run may have no node, if the first of Y is not in X; every other has at least one")
@@ -312,6 +354,16 @@ public final class PackTest {
         check.due("list of 4", Tapes.list(x, 4), "0,3,5,7,9,11");
     }
 
+    @Sentence("The reference is 0, or an r from 1 on for which u - r has successors in the draft")
+    static void oneSuccessor(Check check) {
+        for (int v = 0; v < 12; v++) {
+            ArcTape x = Tapes.packed(new Packing(6, 3, 0, 1), 12, Tapes.row(10, v), Tapes.row(11, v));
+            // r = 1: 01 1; r = 0: 1, and v - 11 in one bit if it is 0, else in three or more.
+            check.due(v + " alone: reference(11)", x.reference(11), v == 11 ? 0 : 1);
+            check.due(v + " alone: list of 11", Tapes.list(x, 11), Integer.toString(v));
+        }
+    }
+
     @Sentence("its DEPTH is below CHAIN")
     static void chain(Check check) {
         ArcTape x = new ArcTape(12);
@@ -394,5 +446,14 @@ public final class PackTest {
         x.pack(1, 1, 0, 1);
         check.due("1 has depth 0 now", x.reference(1), 0);
         check.due("so 2 may refer to it", x.reference(2), 1);
+        // 2 has depth 2 by the first of these packings, and is best without a reference in the second.
+        ArcTape y = Tapes.packed(new Packing(2, 3, 0, 1), 12, Tapes.row(0, 0, 3, 6, 9), Tapes.row(1, 0, 3, 6, 9), Tapes.row(2, 0, 3, 6, 9));
+        check.due("chain 3: reference(2)", y.reference(2), 1);
+        for (int v : new int[] {0, 3, 6, 9}) {
+            y.drop(2, v);
+        }
+        y.add(2, 2);
+        y.pack(2, 1, 0, 1);
+        check.due("chain 1: record of 2", Tapes.record(y, 2), "010" + "1" + "1");
     }
 }

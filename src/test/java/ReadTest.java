@@ -36,6 +36,39 @@ public final class ReadTest {
         }
     }
 
+    @Sentence("The record of u is read from its offset on as it was written above")
+    static void everyArc(Check check) {
+        for (int window = 0; window <= 6; window++) {
+            for (int chain = 0; chain <= 3; chain++) {
+                for (int least = 0; least <= 9; least++) {
+                    for (int k = 1; k <= 4; k++) {
+                        Packing packing = new Packing(window, chain, least, k);
+                        ArcTape x = Tapes.full(12);
+                        packing.of(x);
+                        for (int u = 0; u < 12; u++) {
+                            check.due(packing + ": list of " + u, Tapes.list(x, u), "0,1,2,3,4,5,6,7,8,9,10,11");
+                        }
+                    }
+                }
+            }
+        }
+    }
+
+    @Sentence("The record of u is read from its offset on as it was written above")
+    static void everySet(Check check) {
+        for (int u = 0; u < 12; u += 11) {
+            for (int set = 0; set < 1 << 12; set++) {
+                for (int k = 1; k <= 4; k++) {
+                    ArcTape x = Tapes.withSet(12, u, set);
+                    for (int least = 0; least <= 9; least++) {
+                        x.pack(0, 0, least, k);
+                        check.due("least " + least + ", K " + k + ": set of " + u, Tapes.set(x, u), set);
+                    }
+                }
+            }
+        }
+    }
+
     @Sentence("The record of u is read from its offset on")
     static void fromItsOffset(Check check) {
         ArcTape x = Tapes.packed(PLAIN, 3, Tapes.row(0, 1), Tapes.row(1, 2), Tapes.row(2, 0));
@@ -56,6 +89,8 @@ public final class ReadTest {
             x.pack(3, 4, 3, 3);
             x.pack(3, 3, 10, 3);
             x.pack(3, 3, 3, 5);
+            x.flip(0);
+            x.flip(0);
             check.due(packing + ": list of 0", Tapes.list(x, 0), "1,2,3");
             check.due(packing + ": list of 1", Tapes.list(x, 1), "1,2,3,5");
             check.due(packing + ": list of 2", Tapes.list(x, 2), "");
@@ -110,6 +145,10 @@ public final class ReadTest {
         reads(check, "three, of 1, 1 and 1", Codes.gamma(2) + "01" + Codes.gammas(3, 1, 0, 0), "0,6");
         reads(check, "four, of 0, 1, 1 and 1", Codes.gamma(2) + "01" + Codes.gammas(4, 0, 0, 0, 0), "3,9");
         reads(check, "four, of 1, 1, 1 and 1", Codes.gamma(2) + "01" + Codes.gammas(4, 1, 0, 0, 0), "0,6");
+        for (int v = 0; v < 12; v++) {
+            ArcTape x = Tapes.ending(REFERRING, 12, 1, Codes.gamma(1) + "01" + Codes.gammas(1, 1) + "1".repeat(10), Tapes.row(0, v));
+            check.due("one of 1, where Y is " + v + " alone", Tapes.list(x, 1), Integer.toString(v));
+        }
     }
 
     @Sentence("The LIST of u are the successors so read, ascending")

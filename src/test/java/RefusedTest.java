@@ -20,7 +20,7 @@ public final class RefusedTest {
         states.put("draft changed", () -> {
             ArcTape x = linked();
             x.add(2, 3);
-            x.drop(0, 1);
+            x.drop(0, 2);
             return x;
         });
         states.put("with faulty records", () -> {
@@ -35,8 +35,9 @@ public final class RefusedTest {
         return states;
     }
 
+    /** A stream that would be read otherwise with another window, chain, least or K: 1 copies 0, and 3 has an interval. */
     private static ArcTape linked() {
-        return Tapes.packed(new Packing(2, 2, 2, 2), N, Tapes.row(0, 0, 1, 2), Tapes.row(1, 0, 1, 2, 3), Tapes.row(3, 0));
+        return Tapes.packed(new Packing(2, 2, 2, 2), N, Tapes.row(0, 0, 2), Tapes.row(1, 0, 2), Tapes.row(3, 1, 2, 3));
     }
 
     /** All weights but that of node 3 are 0. */
@@ -49,6 +50,16 @@ public final class RefusedTest {
         x.start(kind, damping);
         x.step(2);
         return x;
+    }
+
+    @Sentence("READING. The record of u is read from its offset on as it was written above")
+    static void whatIsRead(Check check) {
+        ArcTape x = linked();
+        check.due("record of 0", Tapes.record(x, 0), "011" + "1" + "1" + "10" + "110");
+        check.due("record of 1", Tapes.record(x, 1), "011" + "01" + "1");
+        check.due("record of 3", Tapes.record(x, 3), "00100" + "1" + "010" + "00100" + "010");
+        check.due("list of 1", Tapes.list(x, 1), "0,2");
+        check.due("list of 3", Tapes.list(x, 3), "1,2,3");
     }
 
     private static void leavesAll(Check check, String call, long due, ToLongFunction<ArcTape> made) {
@@ -83,15 +94,15 @@ public final class RefusedTest {
         for (int kind = 0; kind <= 2; kind++) {
             ArcTape with = stepped(kind, 500);
             ArcTape without = stepped(kind, 500);
-            check.due("add(0, 1)", with.add(0, 1), false);
-            check.due("add(3, 0)", with.add(3, 0), false);
+            check.due("add(0, 2)", with.add(0, 2), false);
+            check.due("add(3, 3)", with.add(3, 3), false);
             alike(check, "add of arcs that are there", with, without);
         }
     }
 
     @Sentence("A call that is refused changes nothing.")
     static void drop(Check check) {
-        int[][] wrong = {{-1, 0}, {0, -1}, {N, 0}, {0, N}, {32, 1}, {1, 32}, {3, 32}, {MIN, 0}, {0, MIN}, {MAX, 0}, {0, MAX}, {0, 3}, {3, 3}};
+        int[][] wrong = {{-1, 0}, {0, -1}, {N, 0}, {0, N}, {32, 1}, {1, 32}, {3, 32}, {MIN, 0}, {0, MIN}, {MAX, 0}, {0, MAX}, {0, 3}, {3, 0}};
         for (int[] w : wrong) {
             leavesAll(check, "drop(" + w[0] + ", " + w[1] + ")", 0, x -> number(x.drop(w[0], w[1])));
         }

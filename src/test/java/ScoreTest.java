@@ -229,6 +229,17 @@ public final class ScoreTest {
         scores(check, "weights 3 and 1", w, 750000000000L, 250000000000L);
     }
 
+    @Sentence("Answers how many were made")
+    static void howManySteps(Check check) {
+        for (int times = 0; times <= 20; times++) {
+            check.due("none comes to rest: step(" + times + ")", triangle().step(times), times);
+            // 10^12 / 3 is the score of each at once.
+            ArcTape x = new ArcTape(3);
+            x.start(0, 0);
+            check.due("at rest: step(" + times + ")", x.step(times), Math.min(1, times));
+        }
+    }
+
     @Sentence("refused with -1 if times is not 0 .. 20.")
     static void stepOutOfRange(Check check) {
         ArcTape x = triangle();

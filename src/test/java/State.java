@@ -5,13 +5,16 @@ final class State {
 
     /** What is seen without changing anything; some 100 calls for a small graph. */
     static String shown(ArcTape x, int n) {
-        StringBuilder text = new StringBuilder(stream(x, n));
+        return stream(x, n) + lists(x, n) + scores(x, n);
+    }
+
+    private static String lists(ArcTape x, int n) {
+        StringBuilder text = new StringBuilder();
         for (int u = 0; u < n; u++) {
             text.append("; list of ").append(u).append(": ").append(Tapes.list(x, u));
             text.append(", reference ").append(x.reference(u)).append(", component ").append(x.component(u));
         }
-        text.append("; components ").append(x.components());
-        return text.append(scores(x, n)).toString();
+        return text.append("; components ").append(x.components()).toString();
     }
 
     static String stream(ArcTape x, int n) {
@@ -31,9 +34,13 @@ final class State {
         return text.toString();
     }
 
-    /** What shows only when the object is changed: kind, damping, weights, the draft; the object is done for then. */
+    /** What shows only when the object is changed: the packing, kind, damping, weights, the draft; the object is done for then. */
     static String hidden(ArcTape x, int n) {
-        StringBuilder text = new StringBuilder("a step: ").append(x.step(1)).append(scores(x, n));
+        // The stream is as it was after both, but a program that keeps its lists reads them again.
+        x.flip(0);
+        x.flip(0);
+        StringBuilder text = new StringBuilder("read again").append(lists(x, n));
+        text.append("; a step: ").append(x.step(1)).append(scores(x, n));
         x.start(0, 0);
         x.step(1);
         text.append("; weights").append(scores(x, n));

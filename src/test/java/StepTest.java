@@ -68,6 +68,18 @@ public final class StepTest {
         scores(check, "damping 1000", x, 166666666666L, 166666666666L, 666666666665L);
     }
 
+    @Sentence("The new score of v is (1000 - a) * 1000000000 * weight(v) / W + a * (S + Z * weight(v) / W) / 1000.")
+    static void kind0(Check check) {
+        // 0 links to 1, and 1 to none: Z is 5 * 10^11.
+        ArcTape x = packed(2, Tapes.row(0, 1));
+        x.prefer(0, 2);
+        x.start(0, 850);
+        step(check, x);
+        // 100 * 10^9 + 850 * 333333333333 / 1000; 50 * 10^9 + 850 * (500000000000 + 166666666666) / 1000.
+        scores(check, "weights 2 and 1", x, 383333333333L, 616666666666L);
+        check.due("change()", x.change(), 116666666667L + 116666666666L);
+    }
+
     @Sentence("Kind 0, with a DAMPING a of 0 .. 1000")
     static void dampings(Check check) {
         ArcTape x = packed(2, Tapes.row(0, 1));
@@ -231,6 +243,29 @@ public final class StepTest {
         // 923611111107 / 12 is 76967592592.
         check.due("star: score(0)", star.score(0), 76967592592L + 11 * 6944444444L);
         check.due("star: score(11)", star.score(11), 76967592592L);
+    }
+
+    @Sentence("out(u) is the number of nodes in the list of u, in(v) the number of nodes that link to v.")
+    static void ofTheListsAlone(Check check) {
+        // 0 and 1 link to 2; when the record of 0 is faulty, 1 alone does, and has no less of it.
+        ArcTape x = packed(3, Tapes.row(0, 2), Tapes.row(1, 2));
+        x.start(2, 0);
+        step(check, x);
+        hubs(check, "two link to 2", x, 166666666666L, 166666666666L, 0);
+        scores(check, "two link to 2", x, 0, 0, 333333333332L);
+        x.start(2, 0);
+        x.flip(0);
+        check.due("degree(0) < 0", x.degree(0) < 0, true);
+        step(check, x);
+        hubs(check, "one links to 2", x, 0, 333333333333L, 0);
+        scores(check, "one links to 2", x, 0, 0, 333333333333L);
+        // The draft says two, the stream one.
+        ArcTape y = packed(3, Tapes.row(0, 1));
+        y.add(0, 2);
+        y.start(0, 1000);
+        step(check, y);
+        // 2 * 333333333333 / 3 is what 1 and 2, which have none, give to each.
+        scores(check, "out(0) is 1", y, 222222222222L, 333333333333L + 222222222222L, 222222222222L);
     }
 
     @Sentence("with kinds 0 and 2 all scores become 1000000000000 / n and all hubs 0, with kind 1 all scores and all hubs become 1000000.")

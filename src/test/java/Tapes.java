@@ -22,6 +22,40 @@ final class Tapes {
         return x;
     }
 
+    /** Every arc is in the draft. */
+    static ArcTape full(int n) {
+        ArcTape x = new ArcTape(n);
+        for (int u = 0; u < n; u++) {
+            addSet(x, u, (1 << n) - 1);
+        }
+        return x;
+    }
+
+    /** The successors of u, and of no other node, are given as a number in which bit v stands for node v. */
+    static ArcTape withSet(int n, int u, int set) {
+        ArcTape x = new ArcTape(n);
+        addSet(x, u, set);
+        return x;
+    }
+
+    static void addSet(ArcTape x, int u, int set) {
+        for (int v = 0; v < MOST_NODES; v++) {
+            if ((set >> v & 1) != 0) {
+                x.add(u, v);
+            }
+        }
+    }
+
+    /** The list of u as such a number, or its fault as degree tells it. */
+    static int set(ArcTape x, int u) {
+        int degree = x.degree(u);
+        int set = Math.min(0, degree);
+        for (int i = 0; i < degree; i++) {
+            set |= 1 << x.successor(u, i);
+        }
+        return set;
+    }
+
     static int[] row(int... nodes) {
         return nodes;
     }
@@ -74,11 +108,7 @@ final class Tapes {
     static ArcTape endingOrNull(Packing packing, int n, int u, String text, int[]... rows) {
         for (int set = 0; set < 1 << n; set++) {
             ArcTape x = graph(n, rows);
-            for (int v = 0; v < n; v++) {
-                if ((set >> v & 1) != 0) {
-                    x.add(u, v);
-                }
-            }
+            addSet(x, u, set);
             if (packing.of(x) == x.offset(u) + text.length()) {
                 overwrite(x, x.offset(u), text);
                 return x;
