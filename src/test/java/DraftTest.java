@@ -73,6 +73,16 @@ public final class DraftTest {
         ArcTape y = new ArcTape(3);
         Tapes.overwrite(y, 0, "010");
         check.due("010 has no node behind d", y.degree(0), -1);
+        // K 1 shows in a number with a 0 before its 1: it has one bit more behind them, which no other K has.
+        ArcTape z = new ArcTape(5);
+        Tapes.overwrite(z, 0, "010" + "01");
+        check.due("010 01 has a bit too few", z.degree(0), -1);
+        ArcTape below = new ArcTape(6);
+        Tapes.overwrite(below, 0, "010" + "010");
+        check.due("010 010 is the node -1", below.degree(0), -8);
+        ArcTape one = new ArcTape(6);
+        Tapes.overwrite(one, 0, "010" + "011");
+        check.due("010 011 is the node 1, and ends behind its record", one.degree(0), -10);
     }
 
     @Sentence("all weights 1")
