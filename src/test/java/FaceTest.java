@@ -35,8 +35,27 @@ public final class FaceTest {
             int modifiers = inner.getModifiers();
             CHECK.due(inner + " is static", Modifier.isStatic(modifiers), true);
             CHECK.due(inner + " is public or protected", Modifier.isPublic(modifiers) || Modifier.isProtected(modifiers), false);
+            checkNames(inner);
         }
+        checkNames(ArcTape.class);
         CHECK.finish();
+    }
+
+    /** LANGUAGE.md, rule 1: no private method bears the name of a public one. */
+    private static void checkNames(Class<?> type) {
+        for (Method method : type.getDeclaredMethods()) {
+            boolean open = Modifier.isPublic(method.getModifiers());
+            CHECK.due(method + " bears a public name", !open && isPublicName(method.getName()), false);
+        }
+    }
+
+    private static boolean isPublicName(String name) {
+        for (Method method : ArcTape.class.getMethods()) {
+            if (method.getName().equals(name)) {
+                return true;
+            }
+        }
+        return false;
     }
 
     private static void note(Set<String> seen, int modifiers, String text) {
